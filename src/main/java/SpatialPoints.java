@@ -617,9 +617,6 @@ public final class SpatialPoints {
     }
 
     boolean canMove(int dx, int dy, int dz) {
-      if (top == NONE) {
-        return true;
-      }
       for (int i = 0; i < nodeCount; i++) {
         int id = valueAt(preorder, i);
         if (!isPlace(points.coordinateOf(id, 0) + dx, points.coordinateOf(id, 1) + dy,
