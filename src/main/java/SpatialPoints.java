@@ -105,7 +105,7 @@ public final class SpatialPoints {
       throw new ArithmeticException("a coordinate would be out of range");
     }
     state.tree.move(dx, dy, dz);
-    return state.tree.nodeCount;
+    return state.tree.preorder.count;
   }
 
   // ------------------------------------------------------------------ tree
@@ -152,7 +152,7 @@ public final class SpatialPoints {
       case 0:
         return state.points.liveCount;
       case 1:
-        return state.tree.nodeCount - state.points.liveCount;
+        return state.tree.preorder.count - state.points.liveCount;
       case 2:
         return state.points.created;
       case 3:
@@ -187,9 +187,9 @@ public final class SpatialPoints {
 
   public int rebuild() {
     cursor.invalidate();
-    int before = state.tree.nodeCount;
+    int before = state.tree.preorder.count;
     state.rebuilder.rebuildAt(state.tree.top, BY_CALL);
-    return before - state.tree.nodeCount;
+    return before - state.tree.preorder.count;
   }
 
   public int rebuilds(int what) throws IllegalArgumentException {
@@ -255,10 +255,10 @@ public final class SpatialPoints {
     if (what < 0 || what > 2) {
       throw new IllegalArgumentException("there is no such value");
     }
-    if (search.countVisible() < 2) {
+    search.findClosestPair();
+    if (search.pairFirst == NONE) {
       throw new NoSuchElementException("fewer than two points are visible");
     }
-    search.findClosestPair();
     if (what == 0) {
       return search.pairFirst;
     }
@@ -302,7 +302,7 @@ public final class SpatialPoints {
     if (index < 0 || index >= count) {
       throw new NoSuchElementException("there is no such index");
     }
-    return valueAt(search.found, index);
+    return search.found.at(index);
   }
 
   public int boxWeight() {
@@ -335,12 +335,12 @@ public final class SpatialPoints {
 
   public boolean hasNext() throws IllegalStateException {
     requireCursor();
-    return cursor.position < cursor.length;
+    return cursor.hasMore();
   }
 
   public int next() throws IllegalStateException, NoSuchElementException {
     requireCursor();
-    if (cursor.position >= cursor.length) {
+    if (!cursor.hasMore()) {
       throw new NoSuchElementException("there is no further point");
     }
     return cursor.advance();
@@ -461,6 +461,41 @@ public final class SpatialPoints {
     System.arraycopy(from, 0, to, 0, Math.min(from.length, to.length));
   }
 
+  /** Numbers of points, or places of them, one after the other: at most one for each point. */
+  private static final class Numbers {
+    final int[] row = new int[MAX_CREATED];
+    int count = 0;
+
+    void clear() {
+      count = 0;
+    }
+
+    int at(int index) {
+      return valueAt(row, index);
+    }
+
+    void add(int number) {
+      if (count < MAX_CREATED) {
+        put(row, count, number);
+        count++;
+      }
+    }
+
+    void addUnlessNone(int number) {
+      if (number != NONE) {
+        add(number);
+      }
+    }
+
+    int takeLast() {
+      if (count == 0) {
+        return NONE;
+      }
+      count--;
+      return valueAt(row, count);
+    }
+  }
+
   /** All points created, by their numbers. */
   private static final class Points {
     final int[] coordinates = new int[AXES * MAX_CREATED];
@@ -541,12 +576,10 @@ public final class SpatialPoints {
     final int[] liveSizes = new int[MAX_CREATED];
     final int[] lows = new int[AXES * MAX_CREATED];
     final int[] highs = new int[AXES * MAX_CREATED];
-    final int[] preorder = new int[MAX_CREATED];
     final int[] positions = new int[MAX_CREATED];
-    final int[] waiting = new int[MAX_CREATED];
-    int waitingCount = 0;
+    final Numbers preorder = new Numbers();
+    final Numbers waiting = new Numbers();
     int top = NONE;
-    int nodeCount = 0;
 
     Tree(Points points) {
       this.points = points;
@@ -617,8 +650,8 @@ public final class SpatialPoints {
     }
 
     boolean canMove(int dx, int dy, int dz) {
-      for (int i = 0; i < nodeCount; i++) {
-        int id = valueAt(preorder, i);
+      for (int i = 0; i < preorder.count; i++) {
+        int id = preorder.at(i);
         if (!isPlace(points.coordinateOf(id, 0) + dx, points.coordinateOf(id, 1) + dy,
             points.coordinateOf(id, 2) + dz)) {
           return false;
@@ -628,8 +661,8 @@ public final class SpatialPoints {
     }
 
     void move(int dx, int dy, int dz) {
-      for (int i = 0; i < nodeCount; i++) {
-        int id = valueAt(preorder, i);
+      for (int i = 0; i < preorder.count; i++) {
+        int id = preorder.at(i);
         points.moveOn(id, 0, dx);
         points.moveOn(id, 1, dy);
         points.moveOn(id, 2, dz);
@@ -640,35 +673,32 @@ public final class SpatialPoints {
     void refresh() {
       listPreorder();
       // From the back, both children of a node come before it.
-      for (int i = nodeCount - 1; i >= 0; i--) {
-        summarise(valueAt(preorder, i));
+      for (int i = preorder.count - 1; i >= 0; i--) {
+        summarise(preorder.at(i));
       }
     }
 
     private void listPreorder() {
       Arrays.fill(depths, NONE);
-      nodeCount = 0;
-      waitingCount = 0;
-      enqueue(top, NONE);
-      for (int i = 0; i < MAX_CREATED && waitingCount > 0; i++) {
-        waitingCount--;
-        int node = valueAt(waiting, waitingCount);
-        put(preorder, nodeCount, node);
-        put(positions, node, nodeCount);
-        nodeCount++;
-        enqueue(childOf(node, 1), node);
-        enqueue(childOf(node, 0), node);
+      preorder.clear();
+      waiting.clear();
+      reach(top, NONE);
+      for (int i = 0; i < MAX_CREATED && waiting.count > 0; i++) {
+        int node = waiting.takeLast();
+        put(positions, node, preorder.count);
+        preorder.add(node);
+        reach(childOf(node, 1), node);
+        reach(childOf(node, 0), node);
       }
     }
 
-    private void enqueue(int node, int parent) {
+    private void reach(int node, int parent) {
       if (node == NONE) {
         return;
       }
       put(parents, node, parent);
       put(depths, node, parent == NONE ? 0 : valueAt(depths, parent) + 1);
-      put(waiting, waitingCount, node);
-      waitingCount++;
+      waiting.add(node);
     }
 
     private void summarise(int node) {
@@ -698,12 +728,11 @@ public final class SpatialPoints {
     final Points points;
     final Tree tree;
     final int[] statistics = new int[STATISTICS];
-    final int[] members = new int[MAX_LIVE];
+    final Numbers members = new Numbers();
     final int[] taskFroms = new int[MAX_LIVE];
     final int[] taskEnds = new int[MAX_LIVE];
     final int[] taskDepths = new int[MAX_LIVE];
     final int[] taskSlots = new int[MAX_LIVE];
-    int memberCount = 0;
     int taskCount = 0;
 
     Rebuilder(Points points, Tree tree) {
@@ -717,11 +746,11 @@ public final class SpatialPoints {
         return;
       }
       gatherMembers(node);
-      put(statistics, POINTS_REBUILT, valueAt(statistics, POINTS_REBUILT) + memberCount);
+      put(statistics, POINTS_REBUILT, valueAt(statistics, POINTS_REBUILT) + members.count);
       int slot = tree.slotOf(node);
       tree.hang(slot, NONE);
       taskCount = 0;
-      addTask(0, memberCount, valueAt(tree.depths, node), slot);
+      addTask(0, members.count, valueAt(tree.depths, node), slot);
       for (int task = 0; task < taskCount && task < MAX_LIVE; task++) {
         doTask(task);
       }
@@ -729,14 +758,13 @@ public final class SpatialPoints {
     }
 
     private void gatherMembers(int node) {
-      memberCount = 0;
+      members.clear();
       int from = valueAt(tree.positions, node);
       int end = from + tree.sizeOf(node);
       for (int i = from; i < end; i++) {
-        int id = valueAt(tree.preorder, i);
+        int id = tree.preorder.at(i);
         if (points.isAlive(id)) {
-          put(members, memberCount, id);
-          memberCount++;
+          members.add(id);
         }
       }
     }
@@ -758,7 +786,7 @@ public final class SpatialPoints {
       int depth = valueAt(taskDepths, task);
       sortMembers(from, end, depth % AXES);
       int middle = from + (end - from) / 2;
-      int node = valueAt(members, middle);
+      int node = members.at(middle);
       tree.hang(valueAt(taskSlots, task), node);
       addTask(from, middle, depth + 1, 2 * node);
       addTask(middle + 1, end, depth + 1, 2 * node + 1);
@@ -766,13 +794,13 @@ public final class SpatialPoints {
 
     private void sortMembers(int from, int end, int axis) {
       for (int i = from + 1; i < end; i++) {
-        int id = valueAt(members, i);
+        int id = members.at(i);
         int hole = i;
-        while (hole > from && points.isBefore(id, valueAt(members, hole - 1), axis)) {
-          put(members, hole, valueAt(members, hole - 1));
+        while (hole > from && points.isBefore(id, members.at(hole - 1), axis)) {
+          put(members.row, hole, members.at(hole - 1));
           hole--;
         }
-        put(members, hole, id);
+        put(members.row, hole, id);
       }
     }
 
@@ -851,15 +879,17 @@ public final class SpatialPoints {
     }
 
     private boolean isUnbalanced(int node) {
-      int greater = Math.max(tree.sizeOf(tree.childOf(node, 0)), tree.sizeOf(tree.childOf(node, 1)));
+      int left = tree.sizeOf(tree.childOf(node, 0));
+      int right = tree.sizeOf(tree.childOf(node, 1));
+      int greater = Math.max(left, right);
       return greater * 100 > settings.optionValue(BALANCE_OPTION) * tree.sizeOf(node);
     }
 
     void removePoint(int id) {
       points.kill(id);
       tree.refresh();
-      int removed = tree.nodeCount - points.liveCount;
-      if (removed * 100 > settings.optionValue(REMOVAL_OPTION) * tree.nodeCount) {
+      int removed = tree.preorder.count - points.liveCount;
+      if (removed * 100 > settings.optionValue(REMOVAL_OPTION) * tree.preorder.count) {
         rebuilder.rebuildAt(tree.top, AFTER_REMOVAL);
       }
     }
@@ -877,12 +907,10 @@ public final class SpatialPoints {
     final Points points;
     final Tree tree;
     final Settings settings;
-    final int[] found = new int[MAX_LIVE];
+    final Numbers found = new Numbers();
     final int[] distances = new int[MAX_LIVE];
     final int[] labels = new int[MAX_LIVE];
-    final int[] waiting = new int[MAX_CREATED];
-    int foundCount = 0;
-    int waitingCount = 0;
+    final Numbers waiting = new Numbers();
     int pairFirst = NONE;
     int pairSecond = NONE;
     int pairDistance = 0;
@@ -898,18 +926,13 @@ public final class SpatialPoints {
     }
 
     int countVisible() {
-      foundCount = 0;
+      found.clear();
       for (int id = 0; id < points.created; id++) {
-        addIf(isVisible(id), id);
+        if (isVisible(id)) {
+          found.add(id);
+        }
       }
-      return foundCount;
-    }
-
-    private void addIf(boolean fits, int id) {
-      if (fits) {
-        put(found, foundCount, id);
-        foundCount++;
-      }
+      return found.count;
     }
 
     int between(int id, int other) {
@@ -940,16 +963,16 @@ public final class SpatialPoints {
 
     private void measureVisible() {
       countVisible();
-      for (int i = 0; i < foundCount; i++) {
-        put(distances, i, fromQuery(valueAt(found, i)));
+      for (int i = 0; i < found.count; i++) {
+        put(distances, i, fromQuery(found.at(i)));
       }
     }
 
     int nearestAt(int index) {
       measureVisible();
-      for (int i = 0; i < foundCount; i++) {
+      for (int i = 0; i < found.count; i++) {
         if (rankOf(i) == index) {
-          return valueAt(found, i);
+          return found.at(i);
         }
       }
       return NONE;
@@ -958,7 +981,7 @@ public final class SpatialPoints {
     private int rankOf(int place) {
       int mine = valueAt(distances, place);
       int rank = 0;
-      for (int i = 0; i < foundCount; i++) {
+      for (int i = 0; i < found.count; i++) {
         int others = valueAt(distances, i);
         if (others < mine || others == mine && i < place) {
           rank++;
@@ -970,18 +993,18 @@ public final class SpatialPoints {
     int farthestPoint() {
       measureVisible();
       int best = NONE;
-      for (int i = 0; i < foundCount; i++) {
+      for (int i = 0; i < found.count; i++) {
         if (best == NONE || valueAt(distances, i) > valueAt(distances, best)) {
           best = i;
         }
       }
-      return best == NONE ? NONE : valueAt(found, best);
+      return best == NONE ? NONE : found.at(best);
     }
 
     int countWithin(int radius) {
       measureVisible();
       int number = 0;
-      for (int i = 0; i < foundCount; i++) {
+      for (int i = 0; i < found.count; i++) {
         if (valueAt(distances, i) <= radius) {
           number++;
         }
@@ -992,21 +1015,22 @@ public final class SpatialPoints {
     double influenceWithin(int radius) {
       measureVisible();
       double sum = 0.0;
-      for (int i = 0; i < foundCount; i++) {
+      for (int i = 0; i < found.count; i++) {
         int distance = valueAt(distances, i);
         if (distance >= 0 && distance <= radius) {
-          sum += (double) valueAt(points.weights, valueAt(found, i)) / (double) (1 + distance);
+          sum += (double) valueAt(points.weights, found.at(i)) / (double) (1 + distance);
         }
       }
       return sum;
     }
 
+    /** Leaves NONE as the first one if there is no pair. */
     void findClosestPair() {
       countVisible();
       pairFirst = NONE;
-      for (int i = 0; i < foundCount; i++) {
-        for (int j = i + 1; j < foundCount; j++) {
-          offerPair(valueAt(found, i), valueAt(found, j));
+      for (int i = 0; i < found.count; i++) {
+        for (int j = i + 1; j < found.count; j++) {
+          offerPair(found.at(i), found.at(j));
         }
       }
     }
@@ -1023,8 +1047,8 @@ public final class SpatialPoints {
     int countFollowers(int id) {
       countVisible();
       int number = 0;
-      for (int i = 0; i < foundCount; i++) {
-        if (nearestOther(valueAt(found, i)) == id) {
+      for (int i = 0; i < found.count; i++) {
+        if (nearestOther(found.at(i)) == id) {
           number++;
         }
       }
@@ -1034,8 +1058,8 @@ public final class SpatialPoints {
     private int nearestOther(int id) {
       int best = NONE;
       int least = 0;
-      for (int i = 0; i < foundCount; i++) {
-        int other = valueAt(found, i);
+      for (int i = 0; i < found.count; i++) {
+        int other = found.at(i);
         int distance = between(id, other);
         if (other != id && (best == NONE || distance < least)) {
           best = other;
@@ -1050,7 +1074,7 @@ public final class SpatialPoints {
       countVisible();
       Arrays.fill(labels, NONE);
       int number = 0;
-      for (int i = 0; i < foundCount; i++) {
+      for (int i = 0; i < found.count; i++) {
         if (valueAt(labels, i) == NONE) {
           spreadLabel(i, radius);
           number++;
@@ -1061,39 +1085,40 @@ public final class SpatialPoints {
 
     private void spreadLabel(int first, int radius) {
       put(labels, first, first);
-      put(waiting, 0, first);
-      waitingCount = 1;
-      for (int i = 0; i < waitingCount && i < MAX_LIVE; i++) {
-        labelNeighbours(valueAt(waiting, i), first, radius);
+      waiting.clear();
+      waiting.add(first);
+      for (int i = 0; i < MAX_LIVE && i < waiting.count; i++) {
+        labelNeighbours(waiting.at(i), first, radius);
       }
     }
 
     private void labelNeighbours(int place, int label, int radius) {
-      for (int i = 0; i < foundCount; i++) {
+      for (int i = 0; i < found.count; i++) {
         if (valueAt(labels, i) == NONE
-            && between(valueAt(found, place), valueAt(found, i)) <= radius) {
+            && between(found.at(place), found.at(i)) <= radius) {
           put(labels, i, label);
-          put(waiting, waitingCount, i);
-          waitingCount++;
+          waiting.add(i);
         }
       }
     }
 
     int firstOfCluster(int id) {
-      for (int i = 0; i < foundCount; i++) {
-        if (valueAt(found, i) == id) {
-          return valueAt(found, valueAt(labels, i));
+      for (int i = 0; i < found.count; i++) {
+        if (found.at(i) == id) {
+          return found.at(valueAt(labels, i));
         }
       }
       return NONE;
     }
 
     int gatherBox() {
-      foundCount = 0;
+      found.clear();
       for (int id = 0; id < points.created; id++) {
-        addIf(isVisible(id) && isInBox(id), id);
+        if (isVisible(id) && isInBox(id)) {
+          found.add(id);
+        }
       }
-      return foundCount;
+      return found.count;
     }
 
     private boolean isInBox(int id) {
@@ -1109,41 +1134,32 @@ public final class SpatialPoints {
 
     int weightOfFound() {
       int sum = 0;
-      for (int i = 0; i < foundCount; i++) {
-        sum += valueAt(points.weights, valueAt(found, i));
+      for (int i = 0; i < found.count; i++) {
+        sum += valueAt(points.weights, found.at(i));
       }
       return sum;
     }
 
     int momentOfFound(int axis) {
       int sum = 0;
-      for (int i = 0; i < foundCount; i++) {
-        int id = valueAt(found, i);
+      for (int i = 0; i < found.count; i++) {
+        int id = found.at(i);
         sum += points.coordinateOf(id, axis) * valueAt(points.weights, id);
       }
       return sum;
     }
 
     int countVisits() {
-      waitingCount = 0;
-      awaitVisit(tree.top);
-      int number = 0;
-      for (int i = 0; i < MAX_CREATED && i < waitingCount; i++) {
-        int node = valueAt(waiting, i);
-        number++;
+      waiting.clear();
+      waiting.addUnlessNone(tree.top);
+      for (int i = 0; i < MAX_CREATED && i < waiting.count; i++) {
+        int node = waiting.at(i);
         if (meetsBox(node)) {
-          awaitVisit(tree.childOf(node, 0));
-          awaitVisit(tree.childOf(node, 1));
+          waiting.addUnlessNone(tree.childOf(node, 0));
+          waiting.addUnlessNone(tree.childOf(node, 1));
         }
       }
-      return number;
-    }
-
-    private void awaitVisit(int node) {
-      if (node != NONE) {
-        put(waiting, waitingCount, node);
-        waitingCount++;
-      }
+      return waiting.count;
     }
 
     private boolean meetsBox(int node) {
@@ -1164,10 +1180,8 @@ public final class SpatialPoints {
   /** Holds the live points in an order; any change of the tree makes it invalid. */
   private static final class Cursor {
     final Tree tree;
-    final int[] ids = new int[MAX_LIVE];
-    final int[] waiting = new int[MAX_CREATED];
-    int waitingCount = 0;
-    int length = 0;
+    final Numbers ids = new Numbers();
+    final Numbers waiting = new Numbers();
     int position = 0;
     boolean isValid = false;
 
@@ -1179,8 +1193,19 @@ public final class SpatialPoints {
       isValid = false;
     }
 
+    boolean hasMore() {
+      return position < ids.count;
+    }
+
+    int advance() {
+      int id = ids.at(position);
+      position++;
+      return id;
+    }
+
     int start(int order) {
-      length = 0;
+      ids.clear();
+      waiting.clear();
       position = 0;
       isValid = true;
       switch (order) {
@@ -1194,34 +1219,25 @@ public final class SpatialPoints {
           listLevels();
           break;
       }
-      return length;
-    }
-
-    int advance() {
-      int id = valueAt(ids, position);
-      position++;
-      return id;
+      return ids.count;
     }
 
     private void addIfAlive(int id) {
       if (tree.points.isAlive(id)) {
-        put(ids, length, id);
-        length++;
+        ids.add(id);
       }
     }
 
     private void listPreorder() {
-      for (int i = 0; i < tree.nodeCount; i++) {
-        addIfAlive(valueAt(tree.preorder, i));
+      for (int i = 0; i < tree.preorder.count; i++) {
+        addIfAlive(tree.preorder.at(i));
       }
     }
 
     private void listInorder() {
-      waitingCount = 0;
       waitLeftwards(tree.top);
-      for (int i = 0; i < MAX_CREATED && waitingCount > 0; i++) {
-        waitingCount--;
-        int node = valueAt(waiting, waitingCount);
+      for (int i = 0; i < MAX_CREATED && waiting.count > 0; i++) {
+        int node = waiting.takeLast();
         addIfAlive(node);
         waitLeftwards(tree.childOf(node, 1));
       }
@@ -1230,26 +1246,18 @@ public final class SpatialPoints {
     private void waitLeftwards(int from) {
       int node = from;
       for (int i = 0; i < MAX_CREATED && node != NONE; i++) {
-        enqueue(node);
+        waiting.add(node);
         node = tree.childOf(node, 0);
       }
     }
 
     private void listLevels() {
-      waitingCount = 0;
-      enqueue(tree.top);
-      for (int i = 0; i < MAX_CREATED && i < waitingCount; i++) {
-        int node = valueAt(waiting, i);
+      waiting.addUnlessNone(tree.top);
+      for (int i = 0; i < MAX_CREATED && i < waiting.count; i++) {
+        int node = waiting.at(i);
         addIfAlive(node);
-        enqueue(tree.childOf(node, 0));
-        enqueue(tree.childOf(node, 1));
-      }
-    }
-
-    private void enqueue(int node) {
-      if (node != NONE) {
-        put(waiting, waitingCount, node);
-        waitingCount++;
+        waiting.addUnlessNone(tree.childOf(node, 0));
+        waiting.addUnlessNone(tree.childOf(node, 1));
       }
     }
   }
@@ -1325,8 +1333,7 @@ public final class SpatialPoints {
     }
 
     private boolean accepts(char sign) {
-      if (fault != NONE || position >= length || position >= signs.length
-          || signs[position] != sign) {
+      if (fault != NONE || !hasSign() || signs[position] != sign) {
         return false;
       }
       position++;
@@ -1360,8 +1367,11 @@ public final class SpatialPoints {
     }
 
     private boolean hasDigit() {
-      return fault == NONE && position >= 0 && position < length && position < signs.length
-          && signs[position] >= '0' && signs[position] <= '9';
+      return fault == NONE && hasSign() && signs[position] >= '0' && signs[position] <= '9';
+    }
+
+    private boolean hasSign() {
+      return position >= 0 && position < length && position < signs.length;
     }
   }
 }

@@ -15,6 +15,8 @@ public final class PointsTest {
 
   private static void promise1() {
     SpatialPoints p = new SpatialPoints();
+    Check.badState("1 cursor not open", () -> p.hasNext());
+    Check.badState("1 no next point", () -> p.next());
     Check.due("1 live", () -> p.count(0), 0);
     Check.due("1 removed", () -> p.count(1), 0);
     Check.due("1 created", () -> p.count(2), 0);
@@ -72,6 +74,12 @@ public final class PointsTest {
       p.insert(i % 90, -(i % 80), i % 7, 1, 0);
     }
     Check.due("2 200 made", () -> p.count(2), 200);
+    for (int i = 60; i < 200; i++) {
+      int id = i;
+      Check.due("2 x of " + id, () -> p.coordinate(id, 0), id % 90);
+      Check.due("2 y of " + id, () -> p.coordinate(id, 1), -(id % 80));
+      Check.due("2 z of " + id, () -> p.coordinate(id, 2), id % 7);
+    }
     Check.due("2 room again", () -> p.remove(199), 59);
     Check.badState("2 201st point", () -> p.insert(0, 0, 0, 0, 0));
     Check.due("2 none more", () -> p.count(0), 59);

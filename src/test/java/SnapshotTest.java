@@ -3,6 +3,8 @@ public final class SnapshotTest {
   public static void main(String[] args) {
     noSnapshot();
     everything();
+    box();
+    structure();
     notSaved();
     inPlaceOfAnEarlier();
     Check.end();
@@ -96,6 +98,36 @@ public final class SnapshotTest {
       int t = tag;
       Check.due("46 tag " + t, () -> p.exclude(t, t == 2), t == 2);
     }
+  }
+
+  private static void box() {
+    SpatialPoints p = new SpatialPoints();
+    p.insert(3, 3, 3, 1, 0);
+    p.insert(7, 7, 7, 1, 0);
+    p.corner(0, 5, 5, 5);
+    p.corner(1, 9, 9, 9);
+    p.save();
+    p.corner(0, 0, 0, 0);
+    p.restore();
+    Check.due("46 lower corner", () -> p.inBox(), 1);
+    p.corner(1, 6, 6, 6);
+    p.restore();
+    Check.due("46 upper corner", () -> p.inBox(), 1);
+  }
+
+  /** The same points in another tree. */
+  private static void structure() {
+    SpatialPoints p = new SpatialPoints();
+    p.setOption(0, 95);
+    for (int i = 0; i < 10; i++) {
+      p.insert(i, -i, 3 * i % 10, 1, 0);
+    }
+    String before = StateView.of(p);
+    p.save();
+    p.rebuild();
+    Check.due("46 another root", () -> p.root(), 5);
+    p.restore();
+    Check.due("46 the earlier tree", () -> StateView.of(p), before);
   }
 
   private static void notSaved() {

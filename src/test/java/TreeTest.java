@@ -2,10 +2,14 @@
 public final class TreeTest {
   public static void main(String[] args) {
     emptyTree();
+    onePoint();
     links();
     removedNodes();
     balanceOption();
     highestUnbalancedNode();
+    leftSubtreeAlone();
+    sortedOnEachAxis();
+    samePlaces();
     removalOption();
     promise16();
     promise17();
@@ -31,6 +35,24 @@ public final class TreeTest {
     Check.due("14 empty", () -> p.height(), 0);
     Check.missing("15 empty, before what", () -> p.subtree(0, 2));
     Check.missing("17 empty, before axis", () -> p.bound(0, 3, 2));
+  }
+
+  /** At the ends of the range, so that a box that is still empty must lie beyond them. */
+  private static void onePoint() {
+    for (int end = -100; end <= 100; end += 200) {
+      SpatialPoints p = new SpatialPoints();
+      int e = end;
+      p.insert(e, e, e, 1, 0);
+      Check.due("10 one", () -> p.root(), 0);
+      Check.due("12 one", () -> p.parent(0), -1);
+      Check.due("13 one", () -> p.depth(0), 0);
+      Check.due("14 one", () -> p.height(), 1);
+      for (int axis = 0; axis < 3; axis++) {
+        int a = axis;
+        Check.due("17 one, least", () -> p.bound(0, a, 0), e);
+        Check.due("17 one, greatest", () -> p.bound(0, a, 1), e);
+      }
+    }
   }
 
   /** The axis changes with the depth, and equal coordinates are decided by the number. */
@@ -135,6 +157,75 @@ public final class TreeTest {
     Check.due("2 the root first", () -> p.rebuilds(3), 3 + 6);
     Check.due("2 now it left", () -> p.count(1), 0);
     Check.due("2 the new root", () -> p.root(), 3);
+  }
+
+  private static void tree(String what, SpatialPoints p, int[][] due) {
+    for (int[] d : due) {
+      Check.due(what + ": left of " + d[0], () -> p.child(d[0], 0), d[1]);
+      Check.due(what + ": right of " + d[0], () -> p.child(d[0], 1), d[2]);
+    }
+  }
+
+  private static void leftSubtreeAlone() {
+    SpatialPoints p = new SpatialPoints();
+    p.insert(0, 0, 0, 1, 0);
+    p.insert(-1, 0, 0, 1, 0);
+    p.insert(1, 0, 0, 1, 0);
+    p.insert(-2, -1, 0, 1, 0);
+    p.insert(2, -1, 0, 1, 0);
+    p.setOption(0, 60);
+    p.insert(-3, -2, -5, 1, 0);
+    Check.due("2 one rebuild", () -> p.rebuilds(0), 1);
+    Check.due("20 of three", () -> p.rebuilds(3), 3);
+    tree("2 the left subtree", p, new int[][] {{0, 3, 2}, {3, 5, 1}, {5, -1, -1}, {1, -1, -1},
+        {2, 4, -1}, {4, -1, -1}});
+    p.insert(-4, -3, 0, 1, 0);
+    p.insert(-5, -4, 0, 1, 0);
+    Check.due("2 the left one is the greater", () -> p.rebuilds(3), 3 + 8);
+    Check.due("2 the whole tree", () -> p.root(), 1);
+  }
+
+  /** On each axis the points stand in another order. */
+  private static void sortedOnEachAxis() {
+    SpatialPoints p = new SpatialPoints();
+    p.setOption(0, 95);
+    int[][] places = {{6, 1, 3}, {2, 6, 2}, {4, 3, 6}, {7, 4, 1}, {1, 2, 5}, {5, 7, 4}, {3, 5, 7}};
+    for (int[] place : places) {
+      p.insert(place[0], place[1], place[2], 1, 0);
+    }
+    p.rebuild();
+    Check.due("19 root", () -> p.root(), 2);
+    tree("19 seven", p, new int[][] {{2, 6, 3}, {6, 4, 1}, {3, 0, 5}, {4, -1, -1}, {1, -1, -1},
+        {0, -1, -1}, {5, -1, -1}});
+    SpatialPoints q = new SpatialPoints();
+    int[][] twelve = {{0, 0, 12}, {1, 0, 11}, {2, 0, 10}, {3, 0, 9}, {4, 0, 8}, {5, 0, 7}};
+    for (int[] place : twelve) {
+      q.insert(place[0], place[1], place[2], 1, 0);
+    }
+    q.rebuild();
+    Check.due("19 root of six", () -> q.root(), 3);
+    tree("19 six", q, new int[][] {{3, 1, 5}, {1, 0, 2}, {5, 4, -1}});
+    SpatialPoints r = new SpatialPoints();
+    for (int i = 0; i < 14; i++) {
+      r.insert(i < 7 ? 1 : 2, i % 7 < 3 ? 1 : 2, -i, 1, 0);
+    }
+    r.rebuild();
+    Check.due("19 root of fourteen", () -> r.root(), 7);
+    tree("19 axis 2", r, new int[][] {{7, 3, 11}, {3, 1, 5}, {1, 2, 0}, {5, 6, 4}, {11, 9, 12},
+        {9, 10, 8}, {12, 13, -1}});
+  }
+
+  /** Equal coordinates are ordered by the numbers, in whatever order the tree holds them. */
+  private static void samePlaces() {
+    SpatialPoints p = new SpatialPoints();
+    p.insert(5, 5, 5, 1, 0);
+    for (int i = 1; i < 12; i++) {
+      p.insert(0, 0, 0, 1, 0);
+    }
+    p.rebuild();
+    Check.due("19 equal, root", () -> p.root(), 7);
+    tree("19 equal", p, new int[][] {{7, 4, 10}, {4, 2, 6}, {2, 1, 3}, {6, 5, -1}, {10, 9, 0},
+        {9, 8, -1}, {0, 11, -1}});
   }
 
   private static void removalOption() {
