@@ -12,6 +12,7 @@ final class Check {
 
   private static int wrong = 0;
   private static int made = 0;
+  private static int runs = 0;
 
   private Check() {
   }
@@ -32,6 +33,22 @@ final class Check {
       wrong++;
       System.out.println(what + " answered " + got + ", due is " + want);
     }
+  }
+
+  /** Compares texts of many lines, and tells the first line that is not as due. */
+  static void same(String what, String got, String want) {
+    String[] gots = got.split("\n");
+    String[] wants = want.split("\n");
+    int line = 0;
+    while (line < gots.length - 1 && line < wants.length - 1 && gots[line].equals(wants[line])) {
+      line++;
+    }
+    String gotLine = gots[line];
+    due(what, () -> got.equals(want) ? "" : gotLine, got.equals(want) ? "" : wants[line]);
+  }
+
+  static void countRun() {
+    runs++;
   }
 
   static void done(String what, Act act) {
@@ -76,6 +93,9 @@ final class Check {
   }
 
   static void end() {
+    if (runs > 0) {
+      System.out.print(runs + " runs, ");
+    }
     System.out.println(made + " answers checked, " + wrong + " not as due");
     if (wrong != 0) {
       System.exit(1);

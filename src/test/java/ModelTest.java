@@ -6,7 +6,8 @@ import java.util.Comparator;
 /** Long runs of calls, on the class and on the model: promises 1 to 46 together. */
 public final class ModelTest {
   private static final int RUNS = 120;
-  private static final int CALLS = 512;
+  private static final int FULL_RUNS = 10;
+  private static final int CALLS = Run.MOST_CALLS;
   private static final Method[] FACE = face();
   private static final String[] TEXTS = {"1,2,3", "-4,5,-6:7#8", "9,9,9;9,9,9", "0,0,0:0;-0,1,2#3",
       "101,0,0", "1,2", "01,2,3", "1,2,3:", "7,7,7:99", ";", "1,2,3#4;", "5,-5,5;6,-6,6;7,-7,7:1#1"};
@@ -17,6 +18,10 @@ public final class ModelTest {
     for (int run = 0; run < RUNS; run++) {
       seed = 1000003L * run + 17;
       compare(run);
+    }
+    for (int run = 0; run < FULL_RUNS; run++) {
+      seed = 1000003L * run + 18;
+      compareFull(run);
     }
     Check.end();
   }
@@ -34,22 +39,50 @@ public final class ModelTest {
   }
 
   private static void compare(int run) {
-    SpatialPoints p = new SpatialPoints();
-    Model m = new Model();
     // A narrow range makes ties, a wide one makes shifts fail.
     int range = new int[] {1, 3, 10, 50, 101}[run % 5];
     // Some runs grow, some shrink, some are even.
     int growth = 30 + 15 * (run / 5 % 3);
-    for (int i = 0; i < CALLS; i++) {
-      String name = chosen(run, growth);
+    compareCalls("run " + run, new SpatialPoints(), new Model(), 0, range, growth);
+  }
+
+  /** From an object on whose tree holds all 200 points, most of them removed. */
+  private static void compareFull(int run) {
+    SpatialPoints p = new SpatialPoints();
+    Model m = new Model();
+    int calls = 0;
+    calls += compareCall("full", p, m, "setOption", 0, 95);
+    calls += compareCall("full", p, m, "setOption", 1, 90);
+    for (int i = 0; i < 200; i++) {
+      if (i >= 60) {
+        calls += compareCall("full", p, m, "remove", i - 60);
+      }
+      calls += compareCall("full", p, m, "insert", Run.scattered(i, 0), Run.scattered(i, 1),
+          Run.scattered(i, 2), below(100), below(5));
+    }
+    compareCalls("full run " + run, p, m, calls, 101, 0);
+  }
+
+  private static int compareCall(String told, SpatialPoints p, Model m, String name, Object... arguments) {
+    Object want = Check.answer(() -> call(m, name, arguments));
+    Check.due(told + ": " + name + Arrays.toString(arguments), () -> call(p, name, arguments), want);
+    return 1;
+  }
+
+  private static void compareCalls(String told, SpatialPoints p, Model m, int made, int range, int growth) {
+    int calls = made;
+    while (calls < CALLS) {
+      String name = chosen(growth);
       Object[] arguments = arguments(name, range, m);
-      String told = "run " + run + ", call " + i + ": " + name + Arrays.toString(arguments);
-      Object want = Check.answer(() -> call(m, name, arguments));
-      Check.due(told, () -> call(p, name, arguments), want);
+      boolean textToo = name.equals("read") && arguments.length == 1;
+      calls += textToo ? 1 + ((String) arguments[0]).length() : 1;
+      if (calls <= CALLS) {
+        compareCall(told + ", call " + calls, p, m, name, arguments);
+      }
     }
   }
 
-  private static String chosen(int run, int growth) {
+  private static String chosen(int growth) {
     int dice = below(100);
     if (dice < growth) {
       return "insert";

@@ -4,6 +4,7 @@ public final class PointsTest {
     promise1();
     promise2();
     promise2Limits();
+    promise2Places();
     promise3();
     promise4();
     promises5To7();
@@ -69,20 +70,34 @@ public final class PointsTest {
     Check.badState("2 61st live point", () -> p.insert(0, 0, 0, 0, 0));
     Check.illegal("2 range before room", () -> p.insert(0, 0, 0, 0, 10));
     Check.due("2 none made", () -> p.count(2), 60);
-    for (int i = 60; i < 200; i++) {
-      p.remove(i - 60);
-      p.insert(i % 90, -(i % 80), i % 7, 1, 0);
-    }
+    makeUpTo200(p);
     Check.due("2 200 made", () -> p.count(2), 200);
-    for (int i = 60; i < 200; i++) {
-      int id = i;
-      Check.due("2 x of " + id, () -> p.coordinate(id, 0), id % 90);
-      Check.due("2 y of " + id, () -> p.coordinate(id, 1), -(id % 80));
-      Check.due("2 z of " + id, () -> p.coordinate(id, 2), id % 7);
-    }
     Check.due("2 room again", () -> p.remove(199), 59);
     Check.badState("2 201st point", () -> p.insert(0, 0, 0, 0, 0));
     Check.due("2 none more", () -> p.count(0), 59);
+  }
+
+  private static void makeUpTo200(SpatialPoints p) {
+    for (int i = p.count(2); i < 200; i++) {
+      if (i >= 60) {
+        p.remove(i - 60);
+      }
+      p.insert(i % 90, -(i % 80), i % 7, 1, 0);
+    }
+  }
+
+  /** On an object for each axis, since 512 calls are not enough for all of them. */
+  private static void promise2Places() {
+    for (int axis = 0; axis < 3; axis++) {
+      int a = axis;
+      SpatialPoints p = new SpatialPoints();
+      makeUpTo200(p);
+      for (int i = 60; i < 200; i++) {
+        int id = i;
+        int due = axis == 0 ? id % 90 : axis == 1 ? -(id % 80) : id % 7;
+        Check.due("2 axis " + a + " of " + id, () -> p.coordinate(id, a), due);
+      }
+    }
   }
 
   private static void promise3() {
