@@ -49,7 +49,8 @@ public final class SnapshotBoundsTest {
     Run run = Run.rich("45 save", "including the statistics and the points that are not live").calls("save()");
     String saved = run.state();
     run.calls(CHANGES).due("restore()", "done").same("behind all changes", run.state(), saved)
-        .due("weight(10)", 31).due("tag(10)", 0).due("weight(11)", 37).due("depth(11)", run.number("depth(11)"))
+        .due("weight(10)", 31).due("tag(10)", 0).due("weight(11)", 37).due("subtree(11, 1)", 0)
+        .due("count(1)", 1)
         .due("weight(13)", Run.MISSING).due("isLive(13)", false)
         .due("insert(0, 0, 0, 0, 0)", 13);
     Run rebuilds = Run.of("45 save", "including the statistics")
